@@ -177,6 +177,15 @@ public final class FullTest {
         CHECK.due("aside", x.aside(-1, 0), 0);
         CHECK.due("order(0, 5)", Check.order(x, 0, 5), -1);
         CHECK.due("hole(0)", x.hole(0), -1);
+        // a line of a text two ahead is gone
+        Check.tell(x, "item a 1 9;item b 2 9;order p 1 a 1 b 7;");
+        Check.tell(x, "");
+        Check.tell(x, "item a 1 9;item b 2 9;order p 1 a 1;");
+        CHECK.due("units(0, 1, 0)", x.units(0, 1, 0), 0);
+        CHECK.due("units(0, 0, 0)", x.units(0, 0, 0), 1);
+        CHECK.due("walk()", x.walk(), 2);
+        Check.tell(x, "item a 9 9;order p 1 a 1;");
+        CHECK.due("walk() first of all calls", x.walk(), 18);
     }
 
     /** Keeps with unlike orders whole and unlike units aside. */
@@ -211,6 +220,18 @@ public final class FullTest {
         CHECK.due("whole(0)", x.whole(0), 1);
         x.keep(1, true);
         CHECK.due("whole(2)", x.whole(2), 0);
+        Check.tell(x, "item a 1 0;item b 1 0;order p 1 a 1;order q 1 b 1;");
+        x.release();
+        x.keep(0, false);
+        x.stock(0, 1);
+        x.step(1);
+        x.keep(1, false);
+        x.keep(0, true);
+        x.stock(1, 1);
+        x.step(1);
+        CHECK.due("whole(0): q", x.whole(0), 1);
+        x.keep(1, true);
+        CHECK.due("whole(0): p", x.whole(0), 0);
         WaveWall y = Check.told("holes 1;item a 1 9;item b 2 9;order p 1 a 1 b 1;order q 2 a 2 b 1;order r 3 a 1 b 1;");
         y.release();
         y.step(3);
