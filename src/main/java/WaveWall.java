@@ -1082,13 +1082,18 @@ public final class WaveWall {
             }
         }
 
+        /**
+         * Whether a unit came. A hole that comes to be free here is for the
+         * first one aside, not for the next, so all behind stay till then.
+         */
         private boolean goThroughAside(Text text) {
             int were = onSide;
             int stay = 0;
+            boolean freed = false;
             for (int i = 0; i < were; i++) {
                 int unit = side[i];
-                if (canCome(text, orderOfUnit(unit))) {
-                    come(text, unit);
+                if (!freed && canCome(text, orderOfUnit(unit))) {
+                    freed = come(text, unit);
                 } else {
                     side[stay] = unit;
                     stay++;

@@ -13,8 +13,10 @@ public final class ActsTest {
         stockBeyond();
         puttingBy();
         putByIsWhole();
-        goneThrough();
-        goneThroughAgain();
+        freedByStep();
+        freedByPuttingBy();
+        freedAgainAndAgain();
+        freedAmongSeveral();
         lowestHole();
         whoIsStuck();
         wrongOnes();
@@ -170,25 +172,44 @@ public final class ActsTest {
         wholes(x, 0, 1, 2);
     }
 
-    /** A hole freed while they are gone through is for those behind first. */
-    private static void goneThrough() {
+    /** A hole freed while they are gone through is for the first one aside, not for those behind. */
+    private static void freedByStep() {
+        // p has the hole; aside are q, r, r, q, s, s; s can't be whole, so it would hold the hole
+        WaveWall x = Check.told("holes 1;wave 8 60;item a 1 9;item b 2 9;item c 3 9;item d 4 0;"
+                + "order p 0 a 1 c 1;order q 1 a 1 b 1;order r 2 a 2;order s 3 b 2 d 1;");
+        x.release();
+        CHECK.due("step(7)", x.step(7), 7);
+        units("aside", x, new int[][] {{1, 0}, {2, 0}, {2, 0}, {1, 1}, {3, 1}, {3, 1}});
+        CHECK.due("wouldBe()", x.wouldBe(), 3);
+        CHECK.due("step(1)", x.step(1), 1);
+        wholes(x, 0, 1, 2);
+        holes(x, 3);
+        how(x, 4, 4, 4, 2);
+        units("aside", x, new int[][] {});
+        CHECK.due("stuck()", x.stuck(), 0b1000);
+        CHECK.due("undo()", x.undo(), 2);
+        wholes(x);
+        units("aside", x, new int[][] {{1, 0}, {2, 0}, {2, 0}, {1, 1}, {3, 1}, {3, 1}});
+    }
+
+    private static void freedByPuttingBy() {
         // q has the hole; aside are p, s, t, p, t; as q is put by, p comes and is whole at
-        // its second: the hole is t's by its second, then t's first comes and it is whole, then s's.
+        // its second: the hole is s's, who lacks one, though both of t are there
         WaveWall x = Check.told("holes 1;wave 4 60;item a 1 9;item b 2 9;item c 3 9;"
                 + "order q 0 a 1 c 2;order p 1 a 1 b 1;order s 2 a 1 c 1;order t 3 a 1 b 1;");
         x.release();
         x.step(6);
         units("aside", x, new int[][] {{1, 0}, {2, 0}, {3, 0}, {1, 1}, {3, 1}});
         CHECK.due("by(0)", x.by(0), 0);
-        wholes(x, 1, 3);
+        wholes(x, 1);
         holes(x, 2);
-        units("aside", x, new int[][] {});
+        units("aside", x, new int[][] {{3, 0}, {3, 1}});
         x.step(200);
-        wholes(x, 1, 3, 0, 2);
+        wholes(x, 1, 0, 2, 3);
+        holes(x, -1);
     }
 
-    private static void goneThroughAgain() {
-        // three rounds: q whole; then p, s, t by their units behind and before
+    private static void freedAgainAndAgain() {
         WaveWall x = Check.told("holes 1;wave 4 60;item a 1 9;item b 2 9;item c 3 9;"
                 + "order q 0 a 1 c 1;order p 1 a 1 b 1;order s 2 a 1 b 1;order t 3 a 1 b 1;");
         x.release();
@@ -198,6 +219,26 @@ public final class ActsTest {
         CHECK.due("aside", x.aside(-1, 0), 0);
         wholes(x, 0, 1, 2, 3);
         holes(x, -1);
+    }
+
+    private static void freedAmongSeveral() {
+        // p and q have the holes; aside are r, s, t, r, t; as p is whole, r is at its second,
+        // and hole 0 is s's, ahead of t; then q's hole is t's, whose units are both there
+        WaveWall x = Check.told("holes 2;wave 8 60;item a 1 9;item b 2 9;item c 3 9;item d 4 9;"
+                + "order p 0 a 1 c 1;order q 1 a 1 d 1;order r 2 a 1 b 1;order s 3 a 1 d 1;order t 4 a 1 b 1;");
+        x.release();
+        CHECK.due("step(7)", x.step(7), 7);
+        units("aside", x, new int[][] {{2, 0}, {3, 0}, {4, 0}, {2, 1}, {4, 1}});
+        CHECK.due("step(1)", x.step(1), 1);
+        wholes(x, 0, 2);
+        holes(x, 3, 1);
+        units("aside", x, new int[][] {{4, 0}, {4, 1}});
+        CHECK.due("step(1)", x.step(1), 1);
+        wholes(x, 0, 2, 1, 4);
+        holes(x, 3, -1);
+        CHECK.due("step(1)", x.step(1), 1);
+        wholes(x, 0, 2, 1, 4, 3);
+        holes(x, -1, -1);
     }
 
     private static void lowestHole() {

@@ -510,18 +510,15 @@ final class Model {
         return true;
     }
 
+    /** From the first one on again behind every unit that came, so no hole can go to a later one. */
     private void settle() {
-        boolean again = true;
-        while (again) {
-            again = false;
-            int i = 0;
-            while (i < now.aside.size()) {
-                if (come(now.aside.get(i))) {
-                    now.aside.remove(i);
-                    again = true;
-                } else {
-                    i++;
-                }
+        int i = 0;
+        while (i < now.aside.size()) {
+            if (come(now.aside.get(i))) {
+                now.aside.remove(i);
+                i = 0;
+            } else {
+                i++;
             }
         }
     }
