@@ -639,13 +639,13 @@ public final class WaveWall {
 
         private static final int WORD_LETTERS = 6;
         private static final int NUMBER_DIGITS = 2;
-        // A word is a number of base 32, a being 1.
+        // A word is a number of base 32, a being 1, so that a and aa are unlike.
         private static final int SAYS_HOLES = (((8 * 32 + 15) * 32 + 12) * 32 + 5) * 32 + 19;
         private static final int SAYS_WAVE = ((23 * 32 + 1) * 32 + 22) * 32 + 5;
         private static final int SAYS_ITEM = ((9 * 32 + 20) * 32 + 5) * 32 + 13;
         private static final int SAYS_ORDER = (((15 * 32 + 18) * 32 + 4) * 32 + 5) * 32 + 18;
 
-        private byte[] bytes = null;
+        private byte[] bytes = new byte[0];
         private int length = 0;
         private int at = 0;
         private int kind = END;
@@ -737,17 +737,13 @@ public final class WaveWall {
             }
             int order = into.orders;
             into.addOrder(name, due);
-            readUnits(into, order);
-            for (int more = 0; more < ITEMS_OF_ORDER && fault == 0 && kind != CLOSE; more++) {
-                readUnits(into, order);
-            }
-        }
-
-        private void readUnits(Text into, int order) {
-            int item = readItemOf(into, into.itemsOf[order]);
-            int units = readNumber(1, UNITS_OF_LINE);
-            if (fault == 0) {
-                into.addUnits(order, item, units);
+            // One behind six is read too: which fault it is hangs on its name.
+            for (int i = 0; i <= ITEMS_OF_ORDER && fault == 0 && (i == 0 || kind != CLOSE); i++) {
+                int item = readItemOf(into, into.itemsOf[order]);
+                int units = readNumber(1, UNITS_OF_LINE);
+                if (fault == 0) {
+                    into.addUnits(order, item, units);
+                }
             }
         }
 
@@ -823,19 +819,19 @@ public final class WaveWall {
             }
             kind = kindOf(bytes[at]);
             if (kind == WORD) {
-                readRun(WORD_LETTERS, 32, 'a' - 1);
+                readRun('a', 'z', WORD_LETTERS);
             } else if (kind == NUMBER) {
-                readRun(NUMBER_DIGITS, 10, '0');
+                readRun('0', '9', NUMBER_DIGITS);
             } else {
                 at++;
             }
         }
 
-        private void readRun(int longest, int base, int below) {
+        private void readRun(int first, int last, int longest) {
             int end = at;
-            for (; end < length && kindOf(bytes[end]) == kind; end++) {
+            for (; end < length && bytes[end] >= first && bytes[end] <= last; end++) {
                 if (end - at < longest) {
-                    value = value * base + bytes[end] - below;
+                    value = kind == WORD ? value * 32 + bytes[end] - 'a' + 1 : value * 10 + bytes[end] - '0';
                 }
             }
             if (end - at > longest) {

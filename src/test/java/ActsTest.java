@@ -27,10 +27,10 @@ public final class ActsTest {
         WaveWall x = Check.told(TEXT);
         CHECK.due("release()", x.release(), 3);
         // b: p 1, r 2; a: q 4, p 1 of 2; d: r 1
-        units("belt", x, new int[][] {{0, 1}, {2, 1}, {2, 1}, {1, 0}, {1, 0}, {1, 0}, {1, 0}, {0, 0}, {2, 3}});
-        units("aside", x, new int[][] {});
-        holes(x, -1, -1);
-        how(x, 1, 1, 1, 0, 0);
+        CHECK.belt(x, new int[][] {{0, 1}, {2, 1}, {2, 1}, {1, 0}, {1, 0}, {1, 0}, {1, 0}, {0, 0}, {2, 3}});
+        CHECK.aside(x);
+        CHECK.holes(x, -1, -1);
+        CHECK.how(x, 1, 1, 1, 0, 0);
         CHECK.due("late", x.count(5), 1);
         CHECK.due("units(0, 0, 2)", x.units(0, 0, 2), 1);
         CHECK.due("item(0, 1)", x.item(0, 1), 0);
@@ -42,7 +42,7 @@ public final class ActsTest {
         CHECK.due("behind all: then s", x.belt(14, 0), 3);
         CHECK.due("c is late", x.item(2, 2), 1);
         CHECK.due("release() of none", x.release(), -1);
-        how(x, 1, 1, 1, 1, 1);
+        CHECK.how(x, 1, 1, 1, 1, 1);
         x = Check.told("item a 1 0;order p 1 a 2;");
         CHECK.due("release() without stock", x.release(), 1);
         CHECK.due("nothing on the belt", x.belt(-1, 0), 0);
@@ -53,23 +53,23 @@ public final class ActsTest {
         WaveWall x = Check.told(TEXT);
         x.release();
         CHECK.due("step(1)", x.step(1), 1);
-        holes(x, 0, -1);
-        how(x, 2, 1, 1, 0, 0);
+        CHECK.holes(x, 0, -1);
+        CHECK.how(x, 2, 1, 1, 0, 0);
         CHECK.due("step(3)", x.step(3), 3);
-        holes(x, 0, 2);
-        how(x, 2, 1, 2, 0, 0);
-        units("aside", x, new int[][] {{1, 0}});
+        CHECK.holes(x, 0, 2);
+        CHECK.how(x, 2, 1, 2, 0, 0);
+        CHECK.aside(x, new int[][] {{1, 0}});
         CHECK.due("step(4)", x.step(4), 4);
-        units("aside", x, new int[][] {{1, 0}, {1, 0}, {1, 0}, {1, 0}});
+        CHECK.aside(x, new int[][] {{1, 0}, {1, 0}, {1, 0}, {1, 0}});
         CHECK.due("units(0, 0, 1)", x.units(0, 0, 1), 1);
         CHECK.due("whole(-1)", x.whole(-1), 0);
         // r is whole: its hole is q's, whose four are there, and free again
         CHECK.due("step(9)", x.step(9), 1);
-        units("aside", x, new int[][] {});
-        units("belt", x, new int[][] {});
-        holes(x, 0, -1);
-        how(x, 2, 4, 4, 0, 0);
-        wholes(x, 2, 1);
+        CHECK.aside(x);
+        CHECK.belt(x);
+        CHECK.holes(x, 0, -1);
+        CHECK.how(x, 2, 4, 4, 0, 0);
+        CHECK.wholes(x, 2, 1);
         CHECK.due("stuck()", x.stuck(), 1);
     }
 
@@ -87,7 +87,7 @@ public final class ActsTest {
         CHECK.due("step(200)", x.step(200), 1);
         CHECK.due("step(200) of nothing", x.step(200), -1);
         CHECK.due("acts", x.count(6), 4);
-        wholes(x, 0, 1, 2);
+        CHECK.wholes(x, 0, 1, 2);
     }
 
     private static void lateUnits() {
@@ -138,38 +138,38 @@ public final class ActsTest {
         x.release();
         CHECK.due("by() of one without a hole", x.by(0), -1);
         x.step(3);
-        holes(x, 0);
-        units("aside", x, new int[][] {{1, 0}, {1, 0}});
+        CHECK.holes(x, 0);
+        CHECK.aside(x, new int[][] {{1, 0}, {1, 0}});
         CHECK.due("by(1)", x.by(1), -1);
         CHECK.due("by(2)", x.by(2), -1);
         CHECK.due("by(-1)", x.by(-1), -1);
         CHECK.due("by(0)", x.by(0), 0);
-        how(x, 3, 2);
-        holes(x, 1);
-        units("aside", x, new int[][] {});
+        CHECK.how(x, 3, 2);
+        CHECK.holes(x, 1);
+        CHECK.aside(x);
         CHECK.due("units stay its own", Check.order(x, 0, 2), 1);
         CHECK.due("by(0) again", x.by(0), -1);
         CHECK.due("acts", x.count(6), 3);
         CHECK.due("step(1)", x.step(1), 1);
-        how(x, 4, 2);
+        CHECK.how(x, 4, 2);
         CHECK.due("by() of a whole one", x.by(0), -1);
-        wholes(x, 0);
+        CHECK.wholes(x, 0);
     }
 
     private static void putByIsWhole() {
         WaveWall x = Check.told("holes 2;item a 1 9;item b 2 9;order p 1 a 1 b 2;order q 1 a 1 b 1;order r 1 a 1 b 1;");
         x.release();
         x.step(3);
-        holes(x, 0, 1);
+        CHECK.holes(x, 0, 1);
         CHECK.due("by(1)", x.by(1), 1);
-        holes(x, 0, 2);
+        CHECK.holes(x, 0, 2);
         x.step(3);
         // q is whole without a hole; p's was free behind its third
-        wholes(x, 0, 1);
-        holes(x, -1, 2);
-        how(x, 4, 4, 2);
+        CHECK.wholes(x, 0, 1);
+        CHECK.holes(x, -1, 2);
+        CHECK.how(x, 4, 4, 2);
         x.step(1);
-        wholes(x, 0, 1, 2);
+        CHECK.wholes(x, 0, 1, 2);
     }
 
     /** A hole freed while they are gone through is for the first one aside, not for those behind. */
@@ -179,17 +179,17 @@ public final class ActsTest {
                 + "order p 0 a 1 c 1;order q 1 a 1 b 1;order r 2 a 2;order s 3 b 2 d 1;");
         x.release();
         CHECK.due("step(7)", x.step(7), 7);
-        units("aside", x, new int[][] {{1, 0}, {2, 0}, {2, 0}, {1, 1}, {3, 1}, {3, 1}});
+        CHECK.aside(x, new int[][] {{1, 0}, {2, 0}, {2, 0}, {1, 1}, {3, 1}, {3, 1}});
         CHECK.due("wouldBe()", x.wouldBe(), 3);
         CHECK.due("step(1)", x.step(1), 1);
-        wholes(x, 0, 1, 2);
-        holes(x, 3);
-        how(x, 4, 4, 4, 2);
-        units("aside", x, new int[][] {});
+        CHECK.wholes(x, 0, 1, 2);
+        CHECK.holes(x, 3);
+        CHECK.how(x, 4, 4, 4, 2);
+        CHECK.aside(x);
         CHECK.due("stuck()", x.stuck(), 0b1000);
         CHECK.due("undo()", x.undo(), 2);
-        wholes(x);
-        units("aside", x, new int[][] {{1, 0}, {2, 0}, {2, 0}, {1, 1}, {3, 1}, {3, 1}});
+        CHECK.wholes(x);
+        CHECK.aside(x, new int[][] {{1, 0}, {2, 0}, {2, 0}, {1, 1}, {3, 1}, {3, 1}});
     }
 
     private static void freedByPuttingBy() {
@@ -199,14 +199,14 @@ public final class ActsTest {
                 + "order q 0 a 1 c 2;order p 1 a 1 b 1;order s 2 a 1 c 1;order t 3 a 1 b 1;");
         x.release();
         x.step(6);
-        units("aside", x, new int[][] {{1, 0}, {2, 0}, {3, 0}, {1, 1}, {3, 1}});
+        CHECK.aside(x, new int[][] {{1, 0}, {2, 0}, {3, 0}, {1, 1}, {3, 1}});
         CHECK.due("by(0)", x.by(0), 0);
-        wholes(x, 1);
-        holes(x, 2);
-        units("aside", x, new int[][] {{3, 0}, {3, 1}});
+        CHECK.wholes(x, 1);
+        CHECK.holes(x, 2);
+        CHECK.aside(x, new int[][] {{3, 0}, {3, 1}});
         x.step(200);
-        wholes(x, 1, 0, 2, 3);
-        holes(x, -1);
+        CHECK.wholes(x, 1, 0, 2, 3);
+        CHECK.holes(x, -1);
     }
 
     private static void freedAgainAndAgain() {
@@ -217,8 +217,8 @@ public final class ActsTest {
         CHECK.due("aside", x.aside(-1, 0), 6);
         CHECK.due("step(1)", x.step(1), 1);
         CHECK.due("aside", x.aside(-1, 0), 0);
-        wholes(x, 0, 1, 2, 3);
-        holes(x, -1);
+        CHECK.wholes(x, 0, 1, 2, 3);
+        CHECK.holes(x, -1);
     }
 
     private static void freedAmongSeveral() {
@@ -228,17 +228,17 @@ public final class ActsTest {
                 + "order p 0 a 1 c 1;order q 1 a 1 d 1;order r 2 a 1 b 1;order s 3 a 1 d 1;order t 4 a 1 b 1;");
         x.release();
         CHECK.due("step(7)", x.step(7), 7);
-        units("aside", x, new int[][] {{2, 0}, {3, 0}, {4, 0}, {2, 1}, {4, 1}});
+        CHECK.aside(x, new int[][] {{2, 0}, {3, 0}, {4, 0}, {2, 1}, {4, 1}});
         CHECK.due("step(1)", x.step(1), 1);
-        wholes(x, 0, 2);
-        holes(x, 3, 1);
-        units("aside", x, new int[][] {{4, 0}, {4, 1}});
+        CHECK.wholes(x, 0, 2);
+        CHECK.holes(x, 3, 1);
+        CHECK.aside(x, new int[][] {{4, 0}, {4, 1}});
         CHECK.due("step(1)", x.step(1), 1);
-        wholes(x, 0, 2, 1, 4);
-        holes(x, 3, -1);
+        CHECK.wholes(x, 0, 2, 1, 4);
+        CHECK.holes(x, 3, -1);
         CHECK.due("step(1)", x.step(1), 1);
-        wholes(x, 0, 2, 1, 4, 3);
-        holes(x, -1, -1);
+        CHECK.wholes(x, 0, 2, 1, 4, 3);
+        CHECK.holes(x, -1, -1);
     }
 
     private static void lowestHole() {
@@ -246,13 +246,13 @@ public final class ActsTest {
                 + "order p 1 a 1 b 1;order q 2 a 1 d 1;order r 3 a 1 b 1;order s 4 c 1 d 1;order t 5 c 1 d 1;");
         x.release();
         x.step(5);
-        holes(x, -1, 1, -1);
-        wholes(x, 0, 2);
+        CHECK.holes(x, -1, 1, -1);
+        CHECK.wholes(x, 0, 2);
         CHECK.due("free", x.count(3), 2);
         x.step(1);
-        holes(x, 3, 1, -1);
+        CHECK.holes(x, 3, 1, -1);
         x.step(1);
-        holes(x, 3, 1, 4);
+        CHECK.holes(x, 3, 1, 4);
         CHECK.due("free", x.count(3), 0);
     }
 
@@ -270,7 +270,7 @@ public final class ActsTest {
         CHECK.due("p's comes", x.stuck(), 0b010);
         x.by(1);
         CHECK.due("q is by", x.stuck(), 0);
-        wholes(x, 2);
+        CHECK.wholes(x, 2);
     }
 
     private static void wrongOnes() {
@@ -295,40 +295,5 @@ public final class ActsTest {
         CHECK.due("aside(0, 2)", x.aside(0, 2), -2);
         CHECK.due("aside(0, -1)", x.aside(0, -1), -2);
         CHECK.due("aside(1, 0)", x.aside(1, 0), -2);
-    }
-
-    private static void units(String row, WaveWall x, int[][] due) {
-        boolean belt = row.equals("belt");
-        CHECK.due(row + "(-1, 0)", belt ? x.belt(-1, 0) : x.aside(-1, 0), due.length);
-        for (int i = 0; i < due.length; i++) {
-            for (int what = 0; what < 2; what++) {
-                CHECK.due(row + "(" + i + ", " + what + ")", belt ? x.belt(i, what) : x.aside(i, what), due[i][what]);
-            }
-        }
-        CHECK.due(row + "(" + due.length + ", 0)", belt ? x.belt(due.length, 0) : x.aside(due.length, 0), -2);
-    }
-
-    private static void holes(WaveWall x, int... due) {
-        for (int hole = 0; hole < due.length; hole++) {
-            CHECK.due("hole(" + hole + ")", x.hole(hole), due[hole]);
-            if (due[hole] >= 0) {
-                CHECK.due("order(" + due[hole] + ", 5)", Check.order(x, due[hole], 5), hole);
-            }
-        }
-        CHECK.due("hole(" + due.length + ")", x.hole(due.length), -2);
-    }
-
-    private static void how(WaveWall x, int... due) {
-        for (int order = 0; order < due.length; order++) {
-            CHECK.due("order(" + order + ", 4)", Check.order(x, order, 4), due[order]);
-        }
-    }
-
-    private static void wholes(WaveWall x, int... due) {
-        CHECK.due("whole(-1)", x.whole(-1), due.length);
-        for (int k = 0; k < due.length; k++) {
-            CHECK.due("whole(" + k + ")", x.whole(k), due[k]);
-        }
-        CHECK.due("whole(" + due.length + ")", x.whole(due.length), -2);
     }
 }

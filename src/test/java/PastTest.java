@@ -18,27 +18,27 @@ public final class PastTest {
     private static void everyAct() {
         WaveWall x = Check.told(TEXT);
         String[] seen = new String[6];
-        seen[0] = all(x);
+        seen[0] = Check.seen(x);
         x.release();
-        seen[1] = all(x);
+        seen[1] = Check.seen(x);
         x.step(2);
         CHECK.due("aside(-1, 0)", x.aside(-1, 0), 1);
-        seen[2] = all(x);
+        seen[2] = Check.seen(x);
         CHECK.due("by(0)", x.by(0), 0);
-        seen[3] = all(x);
+        seen[3] = Check.seen(x);
         CHECK.due("stock(0, 1)", x.stock(0, 1), 1);
-        seen[4] = all(x);
+        seen[4] = Check.seen(x);
         CHECK.due("step(9)", x.step(9), 3);
         CHECK.due("whole(-1)", x.whole(-1), 2);
         for (int left = 4; left >= 0; left--) {
             CHECK.due("undo()", x.undo(), left);
             CHECK.due("count(6)", x.count(6), left);
-            CHECK.due("as it was: " + seen[left] + " is " + all(x), all(x).equals(seen[left]), true);
+            CHECK.due("as it was: " + seen[left] + " is " + Check.seen(x), Check.seen(x).equals(seen[left]), true);
         }
         CHECK.due("undo() of none", x.undo(), -1);
         CHECK.due("count(6)", x.count(6), 0);
         CHECK.due("release() again", x.release(), 2);
-        CHECK.due("as it was", all(x).equals(seen[1]), true);
+        CHECK.due("as it was", Check.seen(x).equals(seen[1]), true);
     }
 
     private static void twelveAtMost() {
@@ -84,26 +84,26 @@ public final class PastTest {
         CHECK.due("keep(0, true) of nothing", x.keep(0, true), false);
         CHECK.due("keep(0, false)", x.keep(0, false), true);
         CHECK.due("keep(1, true) of nothing", x.keep(1, true), false);
-        String first = all(x);
+        String first = Check.seen(x);
         x.release();
         x.step(2);
         CHECK.due("keep(1, false)", x.keep(1, false), true);
-        String second = all(x);
+        String second = Check.seen(x);
         CHECK.due("by(0)", x.by(0), 0);
         x.stock(0, 9);
         x.step(9);
         CHECK.due("whole(-1)", x.whole(-1), 2);
         CHECK.due("keep(0, true)", x.keep(0, true), true);
-        CHECK.due("as at first: " + first + " is " + all(x), all(x).equals(first), true);
+        CHECK.due("as at first: " + first + " is " + Check.seen(x), Check.seen(x).equals(first), true);
         CHECK.due("keep(1, true)", x.keep(1, true), true);
-        CHECK.due("as at second: " + second + " is " + all(x), all(x).equals(second), true);
+        CHECK.due("as at second: " + second + " is " + Check.seen(x), Check.seen(x).equals(second), true);
         x.step(9);
         CHECK.due("keep(1, true) once more", x.keep(1, true), true);
-        CHECK.due("as at second", all(x).equals(second), true);
+        CHECK.due("as at second", Check.seen(x).equals(second), true);
         CHECK.due("keep(0, false) over it", x.keep(0, false), true);
         x.step(9);
         x.keep(0, true);
-        CHECK.due("as at second", all(x).equals(second), true);
+        CHECK.due("as at second", Check.seen(x).equals(second), true);
     }
 
     private static void keepsAndUndo() {
@@ -131,55 +131,20 @@ public final class PastTest {
 
     private static void counting() {
         WaveWall x = Check.told("holes 3;wave 2 20;item a 1 2;item b 2 2;order p 1 a 1 b 1;order q 2 a 2 b 1;order r 3 b 3;");
-        counts(x, 2, 3, 3, 3, 3, 0, 0, 0, 2, 20);
+        CHECK.counts(x, 2, 3, 3, 3, 3, 0, 0, 0, 2, 20);
         x.release();
-        counts(x, 2, 3, 3, 3, 1, 1, 1, 0, 2, 20);
+        CHECK.counts(x, 2, 3, 3, 3, 1, 1, 1, 0, 2, 20);
         x.step(2);
-        counts(x, 2, 3, 3, 1, 1, 1, 2, 0, 2, 20);
+        CHECK.counts(x, 2, 3, 3, 1, 1, 1, 2, 0, 2, 20);
         x.release();
-        counts(x, 2, 3, 3, 1, 0, 4, 3, 0, 2, 20);
+        CHECK.counts(x, 2, 3, 3, 1, 0, 4, 3, 0, 2, 20);
         x.feed(0, 0, 0, 0, 0);
         x.stock(1, 2);
-        counts(x, 2, 3, 3, 1, 0, 2, 4, 20, 2, 20);
+        CHECK.counts(x, 2, 3, 3, 1, 0, 2, 4, 20, 2, 20);
         x.by(1);
-        counts(x, 2, 3, 3, 2, 0, 2, 5, 20, 2, 20);
+        CHECK.counts(x, 2, 3, 3, 2, 0, 2, 5, 20, 2, 20);
         for (int what : new int[] {Integer.MIN_VALUE, -1, 10, Integer.MAX_VALUE}) {
             CHECK.due("count(" + what + ")", x.count(what), -1);
         }
-    }
-
-    private static void counts(WaveWall x, int... due) {
-        for (int what = 0; what < due.length; what++) {
-            CHECK.due("count(" + what + ")", x.count(what), due[what]);
-        }
-    }
-
-    /** What can be seen of all but the tape and the text. */
-    private static String all(WaveWall x) {
-        StringBuilder all = new StringBuilder();
-        for (int item = 0; item < x.count(0); item++) {
-            all.append(x.item(item, 1)).append(' ').append(x.item(item, 2)).append(", ");
-        }
-        for (int order = 0; order < x.count(1); order++) {
-            for (int what = 2; what < 6; what++) {
-                all.append(x.order(order, what)).append(' ');
-            }
-            for (int item = 0; item < x.count(0); item++) {
-                all.append(x.units(order, item, 1)).append('/').append(x.units(order, item, 2)).append(' ');
-            }
-        }
-        for (int i = -1; i < x.belt(-1, 0); i++) {
-            all.append(" b").append(x.belt(i, 0)).append(x.belt(i, 1));
-        }
-        for (int i = -1; i < x.aside(-1, 0); i++) {
-            all.append(" a").append(x.aside(i, 0)).append(x.aside(i, 1));
-        }
-        for (int hole = 0; hole < x.count(2); hole++) {
-            all.append(" h").append(x.hole(hole));
-        }
-        for (int k = -1; k < x.whole(-1); k++) {
-            all.append(" w").append(x.whole(k));
-        }
-        return all.append(" next ").append(x.wave()).toString();
     }
 }

@@ -73,10 +73,10 @@ public final class TextTest {
         says("holes 8;", 1);
         says("holes08;", 1);
         says("wave 1 1;", 1);
-        says("wave 8 60;wave", fault(10, 2));
+        says("wave 8 60;wave", Check.fault(10, 2));
         says("wave 8 60;", 1);
         says("item a 0 0;item zzzzzz 99 99;", 2);
-        says("itema1 2;", fault(0, 1));
+        says("itema1 2;", Check.fault(0, 1));
         says("item a1 2;order b3a4;", 2);
         says("\nitem\n a\n 01 02 ;\n\n order  b 00 a 09\n;\n", 2);
         says("item a 1 1;item b 1 1;order o 5 b 1 a 9;holes 2;wave 2 2;", 5);
@@ -84,83 +84,83 @@ public final class TextTest {
     }
 
     private static void faultsOfTokens() {
-        says("item a 1 100;", fault(9, 1));
-        says("item abcdefg 1 1;", fault(5, 1));
+        says("item a 1 100;", Check.fault(9, 1));
+        says("item abcdefg 1 1;", Check.fault(5, 1));
         says("item abcdef 1 1;", 1);
-        says("item A 1 1;", fault(5, 1));
-        says("item\ta 1 1;", fault(4, 1));
-        says("item a -1 1;", fault(7, 1));
-        says("item a 1 1,", fault(10, 1));
-        says("item a 1 1;\r", fault(11, 1));
-        says("item a 1 1;{", fault(11, 1));
-        says("item a 1 1;`", fault(11, 1));
-        says("item a 1 1:", fault(10, 1));
-        says("item a 1 1/", fault(10, 1));
-        says("item a 1 1;" + (char) 233, fault(11, 1));
-        says("holess 1;", fault(0, 1));
-        says("itemitemitem", fault(0, 1));
+        says("item A 1 1;", Check.fault(5, 1));
+        says("item\ta 1 1;", Check.fault(4, 1));
+        says("item a -1 1;", Check.fault(7, 1));
+        says("item a 1 1,", Check.fault(10, 1));
+        says("item a 1 1;\r", Check.fault(11, 1));
+        says("item a 1 1;{", Check.fault(11, 1));
+        says("item a 1 1;`", Check.fault(11, 1));
+        says("item a 1 1:", Check.fault(10, 1));
+        says("item a 1 1/", Check.fault(10, 1));
+        says("item a 1 1;" + (char) 233, Check.fault(11, 1));
+        says("holess 1;", Check.fault(0, 1));
+        says("itemitemitem", Check.fault(0, 1));
     }
 
     private static void faultsOfGrammar() {
-        says(";", fault(0, 1));
-        says("1", fault(0, 1));
-        says("a", fault(0, 1));
-        says("holes", fault(5, 1));
-        says("holes ", fault(6, 1));
-        says("holes a;", fault(6, 1));
-        says("holes ;", fault(6, 1));
-        says("holes 1", fault(7, 1));
-        says("holes 1 1;", fault(8, 1));
-        says("wave 3;", fault(6, 1));
-        says("wave 3 3 3;", fault(9, 1));
-        says("item 1 1 1;", fault(5, 1));
-        says("item item 1 1;", fault(5, 1));
-        says("item holes 1 1;", fault(5, 1));
-        says("item wave 1 1;", fault(5, 1));
-        says("item order 1 1;", fault(5, 1));
-        says("item a 1;", fault(8, 1));
-        says("item a b 1;", fault(7, 1));
-        says("item a 1 1 1;", fault(11, 1));
-        says("item a 1 1;;", fault(11, 1));
-        says("item a 1 1;order order 1 a 1;", fault(17, 1));
-        says("item a 1 1;order o a 1;", fault(19, 1));
-        says("item a 1 1;order o 1;", fault(20, 1));
-        says("item a 1 1;order o 1 2;", fault(21, 1));
-        says("item a 1 1;order o 1 a;", fault(22, 1));
-        says("item a 1 1;order o 1 a 1 2;", fault(25, 1));
-        says("item a 1 1;order o 1 item 1;", fault(21, 1));
-        says("item a 1 1;order o 1 a 1 item b 1 1;", fault(25, 1));
-        says("item a 1 1;order o 1 a 1", fault(24, 1));
-        says("item a 1 1;order o 1 a 1  ", fault(26, 1));
+        says(";", Check.fault(0, 1));
+        says("1", Check.fault(0, 1));
+        says("a", Check.fault(0, 1));
+        says("holes", Check.fault(5, 1));
+        says("holes ", Check.fault(6, 1));
+        says("holes a;", Check.fault(6, 1));
+        says("holes ;", Check.fault(6, 1));
+        says("holes 1", Check.fault(7, 1));
+        says("holes 1 1;", Check.fault(8, 1));
+        says("wave 3;", Check.fault(6, 1));
+        says("wave 3 3 3;", Check.fault(9, 1));
+        says("item 1 1 1;", Check.fault(5, 1));
+        says("item item 1 1;", Check.fault(5, 1));
+        says("item holes 1 1;", Check.fault(5, 1));
+        says("item wave 1 1;", Check.fault(5, 1));
+        says("item order 1 1;", Check.fault(5, 1));
+        says("item a 1;", Check.fault(8, 1));
+        says("item a b 1;", Check.fault(7, 1));
+        says("item a 1 1 1;", Check.fault(11, 1));
+        says("item a 1 1;;", Check.fault(11, 1));
+        says("item a 1 1;order order 1 a 1;", Check.fault(17, 1));
+        says("item a 1 1;order o a 1;", Check.fault(19, 1));
+        says("item a 1 1;order o 1;", Check.fault(20, 1));
+        says("item a 1 1;order o 1 2;", Check.fault(21, 1));
+        says("item a 1 1;order o 1 a;", Check.fault(22, 1));
+        says("item a 1 1;order o 1 a 1 2;", Check.fault(25, 1));
+        says("item a 1 1;order o 1 item 1;", Check.fault(21, 1));
+        says("item a 1 1;order o 1 a 1 item b 1 1;", Check.fault(25, 1));
+        says("item a 1 1;order o 1 a 1", Check.fault(24, 1));
+        says("item a 1 1;order o 1 a 1  ", Check.fault(26, 1));
     }
 
     private static void faultsOfNames() {
-        says("item a 1 1;item a 1 1;", fault(16, 2));
-        says("item a 1 1;order a 1 a 1;", fault(17, 2));
-        says("item a 1 1;order o 1 a 1;order o 1 a 1;", fault(31, 2));
-        says("item a 1 1;order o 1 a 1;item o 1 1;", fault(30, 2));
-        says("item a 1 1;order o 1 a 1 a 1;", fault(25, 2));
-        says("item a 1 1;item b 1 1;order o 1 a 1 b 1 a 1;", fault(40, 2));
-        says("holes 1;holes 1;", fault(8, 2));
-        says("holes 1;wave 1 1;holes", fault(17, 2));
-        says("wave 1 1;holes 1;wave 1 1;", fault(17, 2));
-        says("order o 1 a 1;item a 1 1;", fault(10, 3));
-        says("item a 1 1;order o 1 o 1;", fault(21, 3));
-        says("item a 1 1;order o 1 a 1 b 1;", fault(25, 3));
-        says("item a 1 1;order o 1 a 1;order p 1 o 1;", fault(35, 3));
-        says("item ab 1 1;order o 1 a 1;", fault(22, 3));
+        says("item a 1 1;item a 1 1;", Check.fault(16, 2));
+        says("item a 1 1;order a 1 a 1;", Check.fault(17, 2));
+        says("item a 1 1;order o 1 a 1;order o 1 a 1;", Check.fault(31, 2));
+        says("item a 1 1;order o 1 a 1;item o 1 1;", Check.fault(30, 2));
+        says("item a 1 1;order o 1 a 1 a 1;", Check.fault(25, 2));
+        says("item a 1 1;item b 1 1;order o 1 a 1 b 1 a 1;", Check.fault(40, 2));
+        says("holes 1;holes 1;", Check.fault(8, 2));
+        says("holes 1;wave 1 1;holes", Check.fault(17, 2));
+        says("wave 1 1;holes 1;wave 1 1;", Check.fault(17, 2));
+        says("order o 1 a 1;item a 1 1;", Check.fault(10, 3));
+        says("item a 1 1;order o 1 o 1;", Check.fault(21, 3));
+        says("item a 1 1;order o 1 a 1 b 1;", Check.fault(25, 3));
+        says("item a 1 1;order o 1 a 1;order p 1 o 1;", Check.fault(35, 3));
+        says("item ab 1 1;order o 1 a 1;", Check.fault(22, 3));
     }
 
     private static void faultsOfNumbers() {
-        says("holes 0;", fault(6, 4));
-        says("holes 00;", fault(6, 4));
-        says("holes 9;", fault(6, 4));
-        says("wave 0 1;", fault(5, 4));
-        says("wave 9 1;", fault(5, 4));
-        says("wave 1 0;", fault(7, 4));
-        says("wave 1 61;", fault(7, 4));
-        says("item a 1 1;order o 1 a 0;", fault(23, 4));
-        says("item a 1 1;order o 1 a 10;", fault(23, 4));
+        says("holes 0;", Check.fault(6, 4));
+        says("holes 00;", Check.fault(6, 4));
+        says("holes 9;", Check.fault(6, 4));
+        says("wave 0 1;", Check.fault(5, 4));
+        says("wave 9 1;", Check.fault(5, 4));
+        says("wave 1 0;", Check.fault(7, 4));
+        says("wave 1 61;", Check.fault(7, 4));
+        says("item a 1 1;order o 1 a 0;", Check.fault(23, 4));
+        says("item a 1 1;order o 1 a 10;", Check.fault(23, 4));
         says("item a 1 1;order o 99 a 9;", 2);
     }
 
@@ -170,31 +170,31 @@ public final class TextTest {
             ten += "item " + name + " 1 1;";
         }
         says(ten, 10);
-        says(ten + "item k 1 1;", fault(110, 5));
-        says(ten + "item", fault(110, 5));
+        says(ten + "item k 1 1;", Check.fault(110, 5));
+        says(ten + "item", Check.fault(110, 5));
         String six = ten + "order o 1 a 1 b 1 c 1 d 1 e 1 f 1";
         says(six + ";", 11);
-        says(six + " g 1;", fault(144, 5));
-        says(six + " a 1;", fault(144, 2));
-        says(six + " x 1;", fault(144, 3));
-        says(six + " item", fault(144, 1));
-        says(six + " 1", fault(144, 1));
+        says(six + " g 1;", Check.fault(144, 5));
+        says(six + " a 1;", Check.fault(144, 2));
+        says(six + " x 1;", Check.fault(144, 3));
+        says(six + " item", Check.fault(144, 1));
+        says(six + " 1", Check.fault(144, 1));
         String sixteen = "item a 1 1;";
         for (char name = 'b'; name <= 'q'; name++) {
             sixteen += "order " + name + " 1 a 1;";
         }
         says(sixteen, 17);
-        says(sixteen + "order r 1 a 1;", fault(235, 5));
+        says(sixteen + "order r 1 a 1;", Check.fault(235, 5));
         says(sixteen + "holes 1;wave 1 1;item r 1 1;", 20);
     }
 
     private static void leastPlaceFirst() {
-        says("holes 9;?", fault(6, 4));
-        says("?holes 9;", fault(0, 1));
-        says("item a 1 1;item a 100 1;", fault(16, 2));
-        says("item a 100 1;item a 1 1;", fault(7, 1));
-        says("item a 1 1;order a 1 b 0;", fault(17, 2));
-        says("item a 1 1;order o 1 b 0;", fault(21, 3));
+        says("holes 9;?", Check.fault(6, 4));
+        says("?holes 9;", Check.fault(0, 1));
+        says("item a 1 1;item a 100 1;", Check.fault(16, 2));
+        says("item a 100 1;item a 1 1;", Check.fault(7, 1));
+        says("item a 1 1;order a 1 b 0;", Check.fault(17, 2));
+        says("item a 1 1;order o 1 b 0;", Check.fault(21, 3));
     }
 
     private static void whatWallEmpties() {
@@ -236,7 +236,7 @@ public final class TextTest {
         CHECK.due("wall(min)", x.wall(Integer.MIN_VALUE), -1);
         CHECK.due("wall(max)", x.wall(Integer.MAX_VALUE), -1);
         CHECK.due("wall(61)", x.wall(61), -1);
-        CHECK.due("fault", x.wall(46), fault(42, 1));
+        CHECK.due("fault", x.wall(46), Check.fault(42, 1));
         int[] counts = {1, 1, 3, 2, 0, 0, 2, 0, 2, 9};
         for (int what = 0; what < counts.length; what++) {
             CHECK.due("fault: count(" + what + ")", x.count(what), counts[what]);
@@ -245,10 +245,6 @@ public final class TextTest {
         CHECK.due("fault: hole(0)", x.hole(0), 0);
         CHECK.due("fault: belt", x.belt(-1, 0), 1);
         CHECK.due("fault: keep(1, true)", x.keep(1, true), true);
-    }
-
-    private static int fault(int place, int kind) {
-        return -2 - (8 * place + kind);
     }
 
     private static void says(String text, int answer) {
