@@ -67,6 +67,16 @@ final class Check {
         return number;
     }
 
+    /** Lines of orders oa, ob and so on, all with the same units, with dues from first on by step. */
+    static String orders(int count, int first, int step, String units) {
+        StringBuilder text = new StringBuilder();
+        for (int i = 0; i < count; i++) {
+            text.append("order o").append((char) ('a' + i)).append(' ').append(first + i * step);
+            text.append(units).append(';');
+        }
+        return text.toString();
+    }
+
     /** What wall answers for a fault. */
     static int fault(int place, int kind) {
         return -2 - (8 * place + kind);
