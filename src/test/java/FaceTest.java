@@ -7,9 +7,13 @@ import java.nio.file.Files;
 import java.nio.file.Path;
 import java.util.ArrayList;
 import java.util.Arrays;
+import java.util.HashMap;
 import java.util.List;
+import java.util.Map;
 import java.util.Set;
 import java.util.TreeSet;
+import java.util.regex.Matcher;
+import java.util.regex.Pattern;
 
 /** The public face, and what can be looked at of LANGUAGE.md in the source's words. */
 public final class FaceTest {
@@ -30,6 +34,7 @@ public final class FaceTest {
         members();
         nested();
         words();
+        methods();
         CHECK.due("NONE", WaveWall.NONE, -1);
         CHECK.end();
     }
@@ -92,6 +97,51 @@ public final class FaceTest {
             }
             CHECK.due(one + " has few fields", fields <= 20, true);
         }
+    }
+
+    /** Rule 11: methods of some sixty lines, calls at most eight deep. Names alone tell methods apart here. */
+    private static void methods() throws IOException {
+        Pattern head = Pattern.compile("^( {4}| {8})(?:(?:public|private|static) )*[\\w\\[\\]]+ (\\w+)\\(.*\\{$");
+        Map<String, Set<String>> calls = new HashMap<>();
+        List<String> lines = Files.readAllLines(Path.of("src/main/java/WaveWall.java"));
+        for (int first = 0; first < lines.size(); first++) {
+            Matcher found = head.matcher(lines.get(first));
+            if (found.matches()) {
+                int last = first + 1;
+                while (!lines.get(last).equals(found.group(1) + "}")) {
+                    last++;
+                }
+                CHECK.due(found.group(2) + " is short", last - first < 60, true);
+                CHECK.due(found.group(2) + " is told once", calls.containsKey(found.group(2)), false);
+                calls.put(found.group(2), called(lines.subList(first + 1, last)));
+            }
+        }
+        CHECK.due("methods are found", calls.size() > FACE.length, true);
+        for (String name : calls.keySet()) {
+            CHECK.due("calls of " + name + " go eight deep at most", depth(calls, name, 0) <= 8, true);
+        }
+    }
+
+    private static Set<String> called(List<String> body) {
+        Set<String> names = new TreeSet<>();
+        for (String line : body) {
+            Matcher call = Pattern.compile("(?<!new )\\b(\\w+)\\(").matcher(line);
+            while (call.find()) {
+                names.add(call.group(1));
+            }
+        }
+        return names;
+    }
+
+    private static int depth(Map<String, Set<String>> calls, String name, int above) {
+        if (!calls.containsKey(name) || above > 20) {
+            return above;
+        }
+        int most = above + 1;
+        for (String called : calls.get(name)) {
+            most = Math.max(most, depth(calls, called, above + 1));
+        }
+        return most;
     }
 
     private static void words() throws IOException {

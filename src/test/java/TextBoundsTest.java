@@ -35,6 +35,7 @@ public final class TextBoundsTest {
         notToldAhead();
         oneTooMany();
         firstBytes();
+        fromNowOn();
         tapeIsEmpty();
         tapeStays();
         allIsNew();
@@ -435,6 +436,23 @@ public final class TextBoundsTest {
             CHECK.due("wall(" + ends[lines] + ")", x.wall(ends[lines]), lines);
             CHECK.counts(x, lines / 3, 0, lines > 0 ? 7 : 4, lines > 0 ? 7 : 4, 0, 0, 0, 0, lines > 1 ? 5 : 4,
                     lines > 1 ? 6 : 30);
+        }
+    }
+
+    /** Promise 3: "are the TEXT from now on": nothing of those told ahead is left. */
+    private static void fromNowOn() {
+        WaveWall x = Check.told("holes 7;wave 7 7;item a 9 9;item b 9 9;order p 9 a 9 b 9;order q 9 a 9 b 9;");
+        String less = "item a 1 1;item b 2 2;order p 3 a 4;order q 4 b 5;";
+        for (int round = 0; round < 3; round++) {
+            CHECK.due("wall of less", Check.tell(x, less), 4);
+            CHECK.counts(x, 2, 2, 4, 4, 2, 0, 0, 0, 4, 30);
+            CHECK.due("units(0, 1, 0)", x.units(0, 1, 0), 0);
+            CHECK.due("units(1, 0, 0)", x.units(1, 0, 0), 0);
+            CHECK.due("order(0, 1)", Check.order(x, 0, 1), 4);
+            CHECK.due("order(1, 1)", Check.order(x, 1, 1), 5);
+            CHECK.due("alike(0, 1)", x.alike(0, 1), 0);
+            CHECK.picks(x, new int[][] {{0, 1}, {1, 2}});
+            CHECK.due("walk()", x.walk(), 4);
         }
     }
 

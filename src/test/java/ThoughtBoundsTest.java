@@ -196,6 +196,12 @@ public final class ThoughtBoundsTest {
         }
         CHECK.due("sizes(0, 2)", x.sizes(0, 2), -1);
         CHECK.due("ORDERS as told", x.count(8), 4);
+        // the first one told comes last
+        x = Check.told("item a 1 9;" + Check.orders(16, 50, -1, " a 1"));
+        for (int size = 1; size <= 8; size++) {
+            CHECK.due("sizes(" + size + ", 0)", x.sizes(size, 0), waves[size - 1]);
+            CHECK.due("sizes(" + size + ", 1)", x.sizes(size, 1), waves[size - 1]);
+        }
     }
 
     /** Terms 3: "SIZES: all ORDERS that WAIT": with none there are no WAVES and no PICKS. */
@@ -453,6 +459,22 @@ public final class ThoughtBoundsTest {
         CHECK.due("STOCK of 1 stays", x.item(0, 1), 2);
         x.keep(0, true);
         CHECK.due("STOCK of 0 laid again", x.item(0, 1), 52);
+        // in one p came to be whole first, in the other q
+        x = Check.told("item a 1 0;item b 1 0;order p 1 a 1;order q 1 b 1;");
+        x.release();
+        x.keep(0, false);
+        x.stock(0, 1);
+        x.step(1);
+        x.keep(1, false);
+        x.keep(0, true);
+        x.stock(1, 1);
+        x.step(1);
+        x.keep(0, false);
+        CHECK.wholes(x, 1);
+        x.keep(1, true);
+        CHECK.wholes(x, 0);
+        x.keep(0, true);
+        CHECK.wholes(x, 1);
     }
 
     /** Terms 3: "KEEPS 0 and 1 hold all but THE TAPE and the TEXT". */
